@@ -18,9 +18,11 @@ public final class CratesAndStringsTest {
         most();
         blow();
         blowFromTheGreatest();
+        allStrings();
         fewest();
         fewestLessAsBits();
         fewestNone();
+        fewestInDepth();
         fuses();
         Run.end();
     }
@@ -198,7 +200,8 @@ public final class CratesAndStringsTest {
         run.due(0, "told", 1, 3).due(6, "told", 2, 3).due(1001, "fuse", 0, 1000).due(0, "told", 2, 3);
         run.due(1000, "fuse", 0, 5000).due(0, "fuse", 1, 1000).due(0, "told", 1, 3).due(0, "told", 2, 3);
         run.due(1000, "fuse", 1, 1001).due(6, "told", 2, 3).due(5000, "fuse", 0, 0).due(6, "told", 2, 3);
-        run.due(5, "told", 0, 3).due(0, "told", 1, 3);
+        run.due(5, "told", 0, 3).due(0, "told", 1, 3).due(1001, "fuse", 1, 0).due(0, "fuse", 0, 1);
+        run.due(1, "told", 0, 3).due(0, "told", 1, 3).due(0, "told", 2, 3);
     }
 
     private static void most() {
@@ -227,6 +230,37 @@ public final class CratesAndStringsTest {
         Run both = town("promise 10, one after the other");
         both.due(0, "fuse", 0, 100).due(0, "fuse", 1, 14).due(0, "fuse", 3, 1).due(3, "blow");
         both.due(1, "about", 0, 8).due(1, "about", 1, 8).due(0, "about", 2, 8).due(1, "about", 3, 8).due(4, "count", 3);
+    }
+
+    /** The greatest that any call has to reckon with: as many strings as there may be. */
+    private static void allStrings() {
+        Run run = new Run("promises 8, 10 and 11, 24 strings");
+        for (int c = 0; c < 12; c++) {
+            run.due(c, "crate", 1000);
+        }
+        for (int s = 0; s < 24; s++) {
+            run.due(s, "string", 20, 0, 1, 1, 1, 1);
+        }
+        run.due(24, "fewest", 0).due((1 << 24) - 1, "fewest", 1).due(1 << 23, "explain", 1 << 23);
+        for (int s = 0; s < 24; s++) {
+            run.due(0, "fuse", s, 1);
+        }
+        run.due(24, "blow").due(24, "count", 2).due(24, "fuses").due(2, "about", 23, 7);
+        Run deep = new Run("promise 8, 24 strings, each on the one before");
+        for (int c = 0; c < 12; c++) {
+            deep.due(c, "crate", 1000);
+        }
+        deep.due(0, "string", 20, 0, 100, 1, 60, 20);
+        int fall = 0;
+        for (int s = 1; s < 24; s++) {
+            deep.due(s, "string", 21, s - 1, 100, 1, 60, 20);
+        }
+        for (int s = 0; s < 24; s++) {
+            int worst = 2400 * (24 - s);
+            fall += 10 * worst;
+            deep.due(worst, "told", s, 0).due(worst, "told", s, 1).due(fall, "told", s, 2);
+        }
+        deep.due(1, "explain", (1 << 24) - 1).due(0, "dead", 0, 1).due(24, "count", 3).due(0, "told", 23, 0);
     }
 
     private static void fewest() {
@@ -258,6 +292,18 @@ public final class CratesAndStringsTest {
         Run thin = new Run("promise 11, NONE for a thin one");
         thin.due(0, "crate", 1000).due(0, "string", 0, 0, 1, 1, 50, 10).due(1, "fewest", 0);
         thin.due(1, "string", 1, 0, 1, 10, 1, 1).due(Run.NONE, "fewest", 0);
+        thin.due(2, "string", 0, 0, 1, 1, 60, 10).due(Run.NONE, "fewest", 0);
+        thin.due(3, "string", 0, 0, 1, 1, 60, 10).due(Run.NONE, "fewest", 1);
+    }
+
+    /** Wires that bear just the fuse above them; then a little more hangs on, and they need fuses of their own. */
+    private static void fewestInDepth() {
+        Run run = new Run("promise 11, in depth");
+        run.due(0, "crate", 1000).due(0, "string", 0, 0, 1, 10, 60, 10).due(1, "string", 1, 0, 1, 3, 40, 10);
+        run.due(2, "string", 1, 1, 1, 2, 50, 10).due(3, "string", 1, 2, 1, 2, 10, 10);
+        run.due(4, "string", 1, 0, 1, 4, 40, 10).due(3, "fewest", 1).due(2, "fewest", 0);
+        run.due(5, "string", 1, 3, 1, 1, 10, 1).due(5, "fewest", 0).due(31, "fewest", 1);
+        run.due(6, "string", 11, 3, 1, 1, 1, 1).due(6, "fewest", 0).due(95, "fewest", 1);
     }
 
     private static void fuses() {

@@ -12,6 +12,8 @@ public final class NightsTest {
         hung();
         best();
         bestOfSeveral();
+        bestWithCrews();
+        bestForgets();
         Run.end();
     }
 
@@ -136,7 +138,31 @@ public final class NightsTest {
         places(run, 0, 2, 1);
         run.due(3, "string", 1, 2, 1, 1, 1, 1).due(2, "best");
         places(run, 0, 2, 1, 3);
-        run.due(1, "crews", 1, 4).due(99, "best");
+        run.due(1, "crews", 1, 4).due(0, "order", 0, 3).due(99, "best");
+        places(run, 0, 1, 2, 3);
+    }
+
+    /** Two strings keep the long one from its only night unless it is the first; its child never comes ahead of it. */
+    private static void bestWithCrews() {
+        Run run = lamps("promise 22, several crews");
+        run.due(1, "crews", 2, 6).due(127, "open", 1, 2).due(127, "open", 2, 1);
+        run.due(0, "string", 200, 0, 60, 1, 1, 1).due(1, "string", 100, 0, 60, 1, 1, 1);
+        run.due(2, "string", 100, 0, 60, 1, 1, 1).due(3, "string", 101, 1, 100, 1, 1, 1).due(9, "plan").due(9, "best");
+        places(run, 0, 1, 2, 3);
+        run.due(1, "crews", 3, 6).due(2, "best");
+        Run first = lamps("promise 22, the first is not 0");
+        first.due(127, "open", 1, 1).due(0, "string", 0, 0, 80, 1, 1, 1).due(1, "string", 100, 0, 80, 1, 1, 1);
+        first.due(8, "plan").due(2, "best");
+        places(first, 1, 0);
+    }
+
+    /** That a string is hung in an order that was tried must be forgotten when the next one is. */
+    private static void bestForgets() {
+        Run run = lamps("promise 22, what was tried is forgotten");
+        run.due(127, "open", 1, 1).due(127, "open", 2, 1).due(0, "string", 100, 0, 80, 1, 1, 1);
+        run.due(1, "string", 201, 0, 80, 1, 1, 1).due(2, "string", 0, 0, 100, 1, 1, 1).due(8, "best");
+        places(run, 0, 1, 2);
+        run.due(3, "string", 0, 0, 20, 1, 1, 1).due(8, "best");
         places(run, 0, 1, 2, 3);
     }
 }

@@ -14,19 +14,30 @@ final class Run {
 
     private final String name;
     private final LampFeast feast = new LampFeast();
+    private final int[] findings = new int[6];
 
     Run(String name) {
         this.name = name;
     }
 
+    /** Each finding that is due must be told by found() at once. */
     Run due(int want, String method, int... args) {
+        compare(want, method, args);
+        if (want < LOW) {
+            int k = LOW - want;
+            findings[k]++;
+            compare(findings[k], "found", k);
+        }
+        return this;
+    }
+
+    private void compare(int want, String method, int... args) {
         calls++;
         int got = call(feast, method, args);
         if (got != want) {
             wrong++;
             System.out.println(name + ": " + asText(method, args) + " answered " + got + ", due is " + want);
         }
-        return this;
     }
 
     /** The call with each of these numbers as its argument number place (from 0 on) answers what is due. */
