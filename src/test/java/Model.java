@@ -4,7 +4,7 @@ import java.util.List;
 
 /**
  * The document once more, as plainly as it can be told and without regard to time or room: chains are walked, sets and
- * orders are all tried. RandomRunsTest holds the program against it.
+ * orders are all tried. RandomRunsTest and RefusedTest hold the program against it.
  */
 final class Model {
     private static final int LOW = -1000000000;
